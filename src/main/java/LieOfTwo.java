@@ -489,6 +489,7 @@ public final class LieOfTwo {
         private final int[] price = new int[MOST_TIES];
         private final int[] worth = new int[MOST_PERSONS * MOST_ROWS];
         private final long[] base = new long[WORDS];
+        // By ROW; the bits of WORLDS that are none of BASE mean nothing.
         private final long[] so = new long[MOST_ROWS * WORDS];
         // By PERSON and ROW: where one holds it, and where one holds that it is not.
         private final long[] yes = new long[MOST_PERSONS * MOST_ROWS * WORDS];
@@ -1052,7 +1053,6 @@ public final class LieOfTwo {
             begin(always < MOST_ALWAYS);
             int start = steps.count;
             bare = true;
-            holding = false;
             readE(0);
             int end = steps.count;
             tokens.expect(';');
@@ -1257,9 +1257,6 @@ public final class LieOfTwo {
                 System.arraycopy(steps.sets, 0, town.base, 0, town.words);
             }
             fillRows(true);
-            for (int row = 0; row < town.rows; row++) {
-                town.keepBase(town.so, row * WORDS);
-            }
             town.fillAnswers();
         }
 
@@ -1708,7 +1705,7 @@ public final class LieOfTwo {
             }
             for (int more = tie; more < town.ties; more++) {
                 int pair = town.pairOf(more);
-                if (gain[more] > 0 && (used & pair) == 0) {
+                if ((used & pair) == 0) {
                     seekFewest(more + 1, used | pair, sum + gain[more], count + 1);
                 }
             }

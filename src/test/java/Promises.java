@@ -209,6 +209,11 @@ public final class Promises {
         faulty("\tfact a;", 1, 0);
         faulty("fact abcdefghi;", 1, 5);
         good("fact abcdefgh;");
+        good("fact zzyzx; fact z; row zz z and zzyzx;");
+        faulty("fact `;", 1, 5);
+        faulty("fact {;", 1, 5);
+        faulty("fact a/;", 1, 6);
+        faulty("fact a:;", 1, 6);
         faulty("person p cost 12345;", 1, 14);
         faulty("person p cost 1a;", 1, 14);
         faulty("person p cost 12knows", 1, 14);
@@ -368,6 +373,22 @@ public final class Promises {
         String law = "law (1)" + times("+ 1", 78);
         good(law + ";");
         faulty(law + "-1;", 2, law.length() + 1);
+        LieOfTwo x = of("fact a;fact b;fact c;fact d;row r " + times("a if b or c and (", 7) + "a if b or c and d"
+            + times(")", 7) + ";");
+        due("all that can wait", x.is(0, 4), 0);
+        due("all that can wait", x.is(0, 12), 1);
+        due("all that can wait", x.is(0, 13), 1);
+        due("all that can wait", x.is(0, 14), 0);
+        x = of("person p cost 0;law " + times("0 or 0 = 0 + (", 7) + "0 or 0 = 0 + apart" + times(")", 7) + ";");
+        due("all that can wait", x.lies(1, true, true), 1);
+        due("all that can wait", x.lies(1, false, true), 0);
+        String nots = "fact a;fact b;row r " + times(times("not ", 7) + "a or ", 46) + times("not ", 6) + "b;";
+        for (int i = 0; i < 5; i++) {
+            due("WORLDS of a long text", town(x, nots), 4);
+            due("a long one", x.is(0, 0), 1);
+            due("a long one", x.is(0, 1), 0);
+            due("a long one", x.is(0, 3), 1);
+        }
         section = "promise 29, units";
         due("units", of(eighty + ";").about(8), 80);
         due("units of a law", of("law (voices + 1) > (2);").about(8), 5);
