@@ -5,6 +5,12 @@ import java.util.Random;
 
 /** Many towns and calls, made from fixed seeds, on LieOfTwo and on Naive: the answers must be alike. */
 public final class Compared {
+    // Nothing is promised of an object behind its 512th call.
+    private static final int MOST_CALLS = 512;
+    // A text of 1,600 bytes: as many feeds as are needed, end, town, and fault twice.
+    private static final int CALLS_OF_TOWN = 84;
+    // PROOF of each ROW, and of one more.
+    private static final int CALLS_AT_ONCE = 13;
     private final Random random;
     private final List<String> log = new ArrayList<>();
     private LieOfTwo x = new LieOfTwo();
@@ -37,7 +43,7 @@ public final class Compared {
 
     private void run() {
         int towns = 1 + random.nextInt(4);
-        for (int t = 0; t < towns; t++) {
+        for (int t = 0; t < towns && calls + CALLS_OF_TOWN <= MOST_CALLS; t++) {
             String text = townText();
             for (int again = 0; again < 20 && text.length() > 1600; again++) {
                 text = townText();
@@ -55,7 +61,7 @@ public final class Compared {
             persons = y.about(1);
             rows = y.about(2);
             int more = 50 + random.nextInt(200);
-            for (int i = 0; i < more && same && calls < 1000; i++) {
+            for (int i = 0; i < more && same && calls + CALLS_AT_ONCE <= MOST_CALLS; i++) {
                 same = call();
             }
             if (!same) {

@@ -1,75 +1,7 @@
-import java.nio.charset.StandardCharsets;
-
 /** For each promise of the document: ordinary calls, the edges that it names, and wrong ones. */
-public final class Promises {
-    private static int wrong;
-    private static int checks;
-    private static String section = "";
-
-    private static final String HOUSE = "fact rain; fact home; person ann cost 1 knows rain; person bob cost 2 knows home;"
-        + "person cyd cost 3; row wet rain; row out not home; row two rain and home; row annk holds ann rain;"
-        + "tie ann bob price 3; tie bob cyd price 1; wish ann wet worth 5; wish bob wet worth 7;";
-
-    private static void due(String call, int got, int want) {
-        checks++;
-        if (got != want) {
-            wrong++;
-            System.out.println(section + ": " + call + " answered " + got + ", due is " + want);
-        }
-    }
-
-    private static void due(String call, boolean got, boolean want) {
-        due(call, got ? 1 : 0, want ? 1 : 0);
-    }
-
-    /** Feeds a text, cut to its length. */
-    private static void tape(LieOfTwo x, String text) {
-        byte[] bytes = text.getBytes(StandardCharsets.ISO_8859_1);
-        int start = x.about(7);
-        for (int at = 0; at < bytes.length; at += 20) {
-            int[] n = new int[5];
-            for (int i = 0; i < 20; i++) {
-                int b = at + i < bytes.length ? bytes[at + i] & 255 : 32;
-                n[i / 4] = n[i / 4] << 8 | b;
-            }
-            x.feed(n[0], n[1], n[2], n[3], n[4]);
-        }
-        x.end(start + bytes.length);
-    }
-
-    private static int town(LieOfTwo x, String text) {
-        tape(x, text);
-        return x.town();
-    }
-
-    private static LieOfTwo of(String text) {
-        LieOfTwo x = new LieOfTwo();
-        due("town of " + text, town(x, text) == -1, false);
-        return x;
-    }
-
-    /** The text has this fault at this place. */
-    private static void faulty(String text, int what, int place) {
-        LieOfTwo x = of(HOUSE);
-        due("town() of " + text, town(x, text), -1);
-        due("fault(0) of " + text, x.fault(0), what);
-        due("fault(1) of " + text, x.fault(1), place);
-        due("the town ahead of " + text, x.about(0), 2);
-        due("the tape behind " + text, x.about(7), 0);
-    }
-
-    private static void good(String text) {
-        LieOfTwo x = new LieOfTwo();
-        town(x, text);
-        due("fault(0) of " + text, x.fault(0), 0);
-        due("fault(1) of " + text, x.fault(1), -1);
-    }
-
-    private static String times(String text, int n) {
-        return text.repeat(n);
-    }
-
+public final class Promises extends Checks {
     public static void main(String[] args) {
+        begin(args);
         newObject();
         feedAndEnd();
         towns();
@@ -98,12 +30,11 @@ public final class Promises {
         vote();
         boxes();
         about();
-        System.out.println(checks + " checks, " + wrong + " wrong");
-        System.exit(wrong == 0 ? 0 : 1);
+        end();
     }
 
     private static void newObject() {
-        section = "promise 1";
+        section("promise 1");
         LieOfTwo x = new LieOfTwo();
         due("NONE", LieOfTwo.NONE, -1);
         for (int what = 0; what < 9; what++) {
@@ -126,7 +57,7 @@ public final class Promises {
     }
 
     private static void feedAndEnd() {
-        section = "promise 2";
+        section("promise 2");
         LieOfTwo x = new LieOfTwo();
         for (int i = 1; i <= 80; i++) {
             due("feed", x.feed(0x20202020, 0x20202020, 0x20202020, 0x20202020, 0x20202020), 20 * i);
@@ -142,7 +73,7 @@ public final class Promises {
         x.feed(0x20202020, 0x20202020, 0x20202020, 0x20202020, 0x202020ff);
         due("a byte above 127", x.town(), -1);
         due("its place", x.fault(1), 19);
-        section = "promise 3";
+        section("promise 3");
         due("end(0)", x.end(0), 0);
         due("end(1)", x.end(1), -1);
         due("end(-1)", x.end(-1), -1);
@@ -164,7 +95,7 @@ public final class Promises {
     }
 
     private static void towns() {
-        section = "promise 4";
+        section("promise 4");
         LieOfTwo x = of(HOUSE);
         due("about(9)", x.about(9), 4);
         x.later(5);
@@ -198,7 +129,7 @@ public final class Promises {
     }
 
     private static void tokenFaults() {
-        section = "promise 5, fault 1";
+        section("promise 5, fault 1");
         LieOfTwo x = new LieOfTwo();
         due("ahead of any", x.fault(0), 0);
         due("ahead of any", x.fault(1), -1);
@@ -232,7 +163,7 @@ public final class Promises {
     }
 
     private static void standingFaults() {
-        section = "promise 5, fault 2";
+        section("promise 5, fault 2");
         faulty("fact", 2, 4);
         faulty("fact  \n", 2, 7);
         faulty("fact a", 2, 6);
@@ -285,7 +216,7 @@ public final class Promises {
     }
 
     private static void tooManyFaults() {
-        section = "promise 5, too many";
+        section("promise 5, too many");
         String facts = "fact a;fact b;fact c;fact d;fact e;fact f;fact g;fact h;";
         good(facts);
         faulty(facts + "fact a;", 2, facts.length());
@@ -316,7 +247,7 @@ public final class Promises {
     }
 
     private static void nameFaults() {
-        section = "promise 5, faults 3 to 5";
+        section("promise 5, faults 3 to 5");
         faulty("fact a; fact a;", 3, 13);
         faulty("fact a; row a a;", 3, 12);
         faulty("fact a; row r a; fact r;", 3, 22);
@@ -351,7 +282,7 @@ public final class Promises {
     }
 
     private static void depthAndUnits() {
-        section = "promise 5, units";
+        section("promise 5, units");
         String head = "fact a;person p cost 0;row r ";
         good(head + times("(", 7) + "a" + times(")", 7) + ";");
         faulty(head + times("(", 8) + "a" + times(")", 8) + ";", 2, head.length() + 7);
@@ -389,14 +320,14 @@ public final class Promises {
             due("a long one", x.is(0, 1), 0);
             due("a long one", x.is(0, 3), 1);
         }
-        section = "promise 29, units";
+        section("promise 29, units");
         due("units", of(eighty + ";").about(8), 80);
         due("units of a law", of("law (voices + 1) > (2);").about(8), 5);
         due("units of an e", of("fact a; person p cost 0; row r not (holds p a) if (a or a); always a;").about(8), 6);
     }
 
     private static void rowsInWorlds() {
-        section = "promise 6";
+        section("promise 6");
         LieOfTwo x = of(HOUSE);
         int[][] so = {{0, 1, 0, 1}, {1, 1, 0, 0}, {0, 0, 0, 1}, {0, 1, 0, 1}};
         for (int row = 0; row < 4; row++) {
@@ -437,7 +368,7 @@ public final class Promises {
     }
 
     private static void answers() {
-        section = "promise 7";
+        section("promise 7");
         LieOfTwo x = of(HOUSE);
         int[][] wet = {{0, 1, 0, 1}, {2, 2, 2, 2}, {2, 2, 2, 2}};
         int[][] two = {{0, 2, 0, 2}, {0, 0, 2, 2}, {2, 2, 2, 2}};
@@ -461,7 +392,7 @@ public final class Promises {
     }
 
     private static void laws() {
-        section = "promise 8";
+        section("promise 8");
         law("", 1, false, true, 0);
         law("", 3, true, false, 1);
         law("", 7, false, true, 1);
@@ -499,7 +430,7 @@ public final class Promises {
     }
 
     private static void may() {
-        section = "promise 9";
+        section("promise 9");
         LieOfTwo x = of(HOUSE + "law voices = 3;");
         due("surely", x.may(1, 0, false, true, 1), 1);
         due("surely", x.may(1, 0, false, true, 0), 0);
@@ -518,7 +449,7 @@ public final class Promises {
     }
 
     private static void sayings() {
-        section = "promise 10";
+        section("promise 10");
         LieOfTwo x = of(HOUSE);
         due("no PERSONS", x.say(0, 0, false, true), -1);
         due("no PERSONS", x.say(8, 0, false, true), -1);
@@ -530,7 +461,7 @@ public final class Promises {
         }
         due("a 41st", x.say(2, 1, true, true), -1);
         due("SAYINGS", x.about(5), 40);
-        section = "promise 11";
+        section("promise 11");
         due("untell", x.untell(39), true);
         due("again", x.untell(39), false);
         due("none such", x.untell(40), false);
@@ -539,7 +470,7 @@ public final class Promises {
     }
 
     private static void times() {
-        section = "promise 12";
+        section("promise 12");
         LieOfTwo x = of(HOUSE);
         due("later(0)", x.later(0), 0);
         due("later(3)", x.later(3), 3);
@@ -554,7 +485,7 @@ public final class Promises {
         due("later", x.later(997), 100000);
         due("later", x.later(1), -1);
         due("later", x.later(0), 100000);
-        section = "two times";
+        section("two times");
         x = of("fact a; person p cost 0 knows a; row r a; law 0;");
         x.later(5);
         due("say", x.say(1, 0, false, true), 0);
@@ -574,7 +505,7 @@ public final class Promises {
     }
 
     private static void leftAndWorld() {
-        section = "promises 13, 14";
+        section("promises 13, 14");
         LieOfTwo x = of("fact a; fact b; fact c; person p cost 0 knows a; person q cost 0 knows b; row ra a; row rb b;"
             + "row rc c; always a or b; law 0;");
         due("left", x.left(0), 6);
@@ -598,7 +529,7 @@ public final class Promises {
     }
 
     private static void sure() {
-        section = "promise 15";
+        section("promise 15");
         LieOfTwo x = of("fact a; fact b; person p cost 0 knows a; row ra a; row nb not b; row na not a; law 0;");
         due("in some", x.sure(0, 0), -2);
         x.say(1, 0, false, true);
@@ -613,7 +544,7 @@ public final class Promises {
     }
 
     private static void proof() {
-        section = "promise 16";
+        section("promise 16");
         LieOfTwo x = of("fact a; fact b; person p cost 0 knows a; person q cost 0 knows b; row ra a; row rb b;"
             + "row rab a and b; row any a or not a; row na not a; law 0;");
         due("by none", x.proof(3, 0), 0);
@@ -651,7 +582,7 @@ public final class Promises {
     }
 
     private static void judge() {
-        section = "promise 17";
+        section("promise 17");
         LieOfTwo x = of("fact a; fact b; person p cost 0 knows a; person q cost 0 knows b; row ra a; row rb b; always a or b;");
         due("all could", x.judge(1, 0), -1);
         x.say(3, 1, false, true);
@@ -670,7 +601,7 @@ public final class Promises {
     }
 
     private static void next() {
-        section = "promise 18";
+        section("promise 18");
         LieOfTwo x = of("fact a; fact b; person p cost 7 knows a; person q cost 3 knows b; person s cost 3 knows b;"
             + "row rab a and b; row ra a; row rb b; law 0;");
         // p of ra: 2 and 2; q of rb likewise and cheaper; of rab no better than 2
@@ -695,7 +626,7 @@ public final class Promises {
     }
 
     private static void askings() {
-        section = "promise 19";
+        section("promise 19");
         LieOfTwo x = of("fact a; fact b; fact c; person p cost 0 knows a; person q cost 0 knows b; row ra a; row rb b;"
             + "row rx (a or b) and not (a and b); row rc c; row rt a or not a; law 0;");
         due("none is needed", x.askings(4, 0), 0);
@@ -722,7 +653,7 @@ public final class Promises {
     }
 
     private static void lastsAndWith() {
-        section = "promise 20";
+        section("promise 20");
         LieOfTwo x = of(HOUSE);
         due("lasts", x.lasts(0, 1, 0, 0), 1);
         due("lasts", x.lasts(1, 0, 0, 0), 1);
@@ -734,7 +665,7 @@ public final class Promises {
         due("no PERSON", x.lasts(-1, 1, 0, 0), -1);
         due("no ROW", x.lasts(0, 1, 4, 0), -1);
         due("no WORLD", x.lasts(0, 1, 0, 4), -1);
-        section = "promise 21";
+        section("promise 21");
         due("with", x.with(0, 0, 0), 1);
         due("with", x.with(2, 0, 0), 1);
         due("the better LASTS", x.with(1, 0, 0), 0);
@@ -756,7 +687,7 @@ public final class Promises {
     }
 
     private static void rest() {
-        section = "promise 22";
+        section("promise 22");
         LieOfTwo x = of(HOUSE);
         due("GAIN", x.rest(0, 0), 6);
         due("ties", x.rest(0, 1), 1);
@@ -789,7 +720,7 @@ public final class Promises {
     }
 
     private static void truth() {
-        section = "promise 23";
+        section("promise 23");
         LieOfTwo x = of("fact a; fact b; row rab a and b; row ra a; row none a and not a; person p cost 0 knows a b; law 0;");
         due("upper", x.truth(0, 10, 2, 0, 0), 5);
         due("lower", x.truth(0, 10, 2, 1, 0), 8);
@@ -821,7 +752,7 @@ public final class Promises {
         + "person s cost 0; person t cost 0; row ra a; row rb b; row rc c; row no a and not a;";
 
     private static void leagues() {
-        section = "promise 24";
+        section("promise 24");
         LieOfTwo x = of(FIVE);
         due("none needed", x.leagues(0, 0), 0);
         x.say(3, 0, false, true);
@@ -869,7 +800,7 @@ public final class Promises {
     }
 
     private static void plain() {
-        section = "promise 25";
+        section("promise 25");
         LieOfTwo x = of(FIVE);
         due("the first", x.plain(0), 0);
         x.say(3, 1, false, true);
@@ -891,7 +822,7 @@ public final class Promises {
     }
 
     private static void vote() {
-        section = "promise 26";
+        section("promise 26");
         LieOfTwo x = of("fact a; person p cost 0 knows a; person q cost 0 knows a; person r cost 0; person s cost 0; row ra a;"
             + "tie p q price 0; tie p r price 0; tie r s price 0;");
         due("yes", x.vote(0, 1, 0), 2);
@@ -930,7 +861,7 @@ public final class Promises {
     }
 
     private static void boxes() {
-        section = "promises 27, 28";
+        section("promises 27, 28");
         LieOfTwo x = of("fact a; person p cost 0 knows a; row ra a; row na not a; law 0;");
         due("nothing kept", x.back(0), -1);
         due("no BOX", x.image(3), -1);
@@ -970,7 +901,7 @@ public final class Promises {
     }
 
     private static void about() {
-        section = "promise 29";
+        section("promise 29");
         LieOfTwo x = of(HOUSE);
         x.say(1, 0, false, true);
         x.say(1, 0, false, true);
