@@ -352,6 +352,7 @@ public final class BoundsOfCalls extends Checks {
 
     private static void boxes() {
         test("SAYINGS are kept in a BOX 0 .. 2 (as TOLD and UNTOLD): how many; NONE if there is none such", BoundsOfCalls::keeping);
+        test("as they were kept", BoundsOfCalls::overwritten);
         test("All SAYINGS are as they were kept (the TIME goes on): how many; NONE, doing nothing, if nothing was", BoundsOfCalls::goingBack);
     }
 
@@ -384,6 +385,59 @@ public final class BoundsOfCalls extends Checks {
         due("the BOX is kept when gone back to", x.back(1), 39);
         due("and again", x.back(1), 39);
         due("the one kept anew", x.back(0), 40);
+    }
+
+    /** What is kept is not what is told over it: PERSONS, ROW, surely, TIME and what can be said. */
+    private static void overwritten() {
+        LieOfTwo x = of("fact a;fact b;" + lines("person * cost 0 knows a;", 8) + "row ra a;row rb b;law voices - 1;");
+        due("none", x.image(0), 0);
+        x.later(1);
+        x.say(3, 0, false, true);
+        x.say(12, 0, true, true);
+        x.say(1, 0, false, true);
+        due("kept", x.image(1), 3);
+        x.later(1);
+        due("none", x.back(0), 0);
+        x.say(3, 1, false, false);
+        x.say(3, 1, false, true);
+        x.say(3, 1, false, true);
+        x.say(3, 1, false, true);
+        due("kept", x.image(2), 4);
+        due("those told over them", x.leagues(0, 2), 1);
+        due("those told over them", x.left(2), 4);
+        due("as kept", x.back(1), 3);
+        due("their PERSONS", x.leagues(0, 2), 2);
+        due("their ROW", x.leagues(2, 2), 2);
+        due("their ROW", x.leagues(1, 2), 0);
+        due("their TIME", x.leagues(0, 1), 2);
+        due("their TIME", x.leagues(0, 0), 0);
+        due("what can be said", x.left(1), 2);
+        due("what can be said", x.judge(2, 1), 2);
+        due("as kept", x.back(2), 4);
+        due("one pair", x.leagues(0, 2), 1);
+        due("their ROW", x.leagues(2, 2), 0);
+        due("their TIME", x.leagues(0, 1), 0);
+        due("what can be said", x.left(2), 4);
+        // forty, of which the last alone rules something out
+        x = of("fact a;fact b;fact c;fact d;fact e;fact f;fact g;fact h;person p cost 0 knows h;row any h or not h;row rh h;row nh not h;law 0;");
+        x.image(0);
+        for (int i = 0; i < 40; i++) {
+            x.say(1, i < 39 ? 0 : 1, false, true);
+        }
+        x.image(1);
+        x.back(0);
+        for (int i = 0; i < 40; i++) {
+            x.say(1, i < 39 ? 0 : 2, false, true);
+        }
+        due("kept over the first BOX", x.image(0), 40);
+        due("the last rules out", x.world(0, 0), 0);
+        due("back", x.back(1), 40);
+        due("the last rules out", x.world(0, 0), 128);
+        due("half", x.left(0), 128);
+        due("judge", x.judge(127, 0), 39);
+        due("back", x.back(0), 40);
+        due("judge", x.judge(128, 0), 39);
+        due("judge", x.judge(127, 0), -1);
     }
 
     private static void goingBack() {

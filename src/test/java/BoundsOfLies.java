@@ -94,6 +94,7 @@ public final class BoundsOfLies extends Checks {
 
     private static void askings() {
         test("the least number (0 .. 2) of those", BoundsOfLies::numberOfAskings);
+        test("by which it is told in each WORLD LEFT whether the ROW is so", BoundsOfLies::ofEight);
         test("one behind the other, each chosen by answers so far", BoundsOfLies::chosenByAnswers);
         test("ASKINGS; NONE; -2 if there is no such ROW, or none is LEFT", BoundsOfLies::noAskings);
     }
@@ -125,6 +126,50 @@ public final class BoundsOfLies extends Checks {
         due("who knows it", x.askings(0, 0), 1);
         x = of("fact a;fact b;fact c;always c if a and b;always not c if not (a and b);person p cost 0 knows a b;row ra a;row rb b;row rc c;");
         due("one who can find it out", x.askings(2, 0), 1);
+    }
+
+    /** Eight FACTS, each known by another. */
+    private static void ofEight() {
+        LieOfTwo x = of(lines("fact *;", 8) + lines("person * cost 0 knows *;", 8) + lines("row r* *;", 8)
+            + "row x (g or h) and not (g and h);row y g and h or not g and not a;row z f and g and h;law 0;");
+        for (int row = 0; row < 8; row++) {
+            due("one", x.askings(row, 0), 1);
+        }
+        due("two", x.askings(8, 0), 2);
+        due("two, as g is", x.askings(9, 0), 2);
+        due("three would do", x.askings(10, 0), -1);
+        for (int row = 7; row >= 0; row--) {
+            nextIs(x, 0, 0, 1 << row);
+            x.say(1 << row, row, false, true);
+            due("told", x.askings(row, 0), 0);
+            due("of two", x.askings(8, 0), row == 7 ? 1 : 0);
+        }
+        x = of(lines("fact *;", 8) + lines("person * cost 0 knows *;", 8) + lines("row r* *;", 8) + "row n a and not a;law 0;");
+        for (int row = 0; row < 7; row++) {
+            x.say(1 << row, row, false, true);
+            due("one more is told", x.askings(row, 0), 0);
+            due("the last is not", x.askings(7, 0), 1);
+            nextIs(x, row + 1, row + 1, 1 << 6 - row);
+        }
+        due("never so", x.askings(8, 0), 0);
+        // of each two FACTS: so in a quarter of the WORLDS, and nobody can tell, or one can
+        for (int one = 0; one < 8; one++) {
+            for (int other = one + 1; other < 8; other++) {
+                char a = (char) ('a' + one);
+                char b = (char) ('a' + other);
+                x = of(lines("fact *;", 8) + "person p cost 0;row nn not " + a + " and not " + b + ";row ny not " + a + " and " + b
+                    + ";row yn " + a + " and not " + b + ";row yy " + a + " and " + b + ";");
+                LieOfTwo y = of(lines("fact *;", 8) + "person p cost 0;person q cost 0 knows " + b + " " + a + ";row nn not " + a
+                    + " and not " + b + ";row ny not " + a + " and " + b + ";row yn " + a + " and not " + b + ";row yy " + a + " and " + b + ";");
+                for (int row = 0; row < 4; row++) {
+                    due("nobody can tell", x.askings(row, 0), -1);
+                    due("one can", y.askings(row, 0), 1);
+                }
+            }
+        }
+        x = of(lines("fact *;", 8) + "person p cost 0 knows a;person q cost 0 knows b;person s cost 0 knows g h;row ra a;row rb b;"
+            + "row gh g or h;row mux a and gh or b and not gh;");
+        due("a or b, as one of g and h is", x.askings(3, 0), 2);
     }
 
     private static void chosenByAnswers() {
@@ -223,6 +268,16 @@ public final class BoundsOfLies extends Checks {
         due("both below 0", of(four + "tie p q price 99;tie r p price 98;").with(0, 0, 0), 2);
         due("told either way", of(four + "tie q p price 0;").with(0, 0, 0), 1);
         due("told either way", of(four + "tie q p price 0;").with(1, 0, 0), 0);
+        // of each of three ties, as told, the other way, and in another order
+        String dear = "tie p q price 3;tie p r price 2;tie q r price 1;";
+        due("the cheaper for p", of(four + dear).with(0, 0, 0), 2);
+        due("the cheaper for q", of(four + dear).with(1, 0, 0), 2);
+        due("the cheaper for r", of(four + dear).with(2, 0, 0), 1);
+        dear = "tie r q price 3;tie q p price 1;tie r p price 2;";
+        due("the cheaper for p", of(four + dear).with(0, 0, 0), 1);
+        due("the cheaper for q", of(four + dear).with(1, 0, 0), 0);
+        due("the cheaper for r", of(four + dear).with(2, 0, 0), 0);
+        due("the last of more", of(four + "tie s p price 50;tie s q price 49;tie s r price 48;").with(3, 0, 0), 2);
         // 0 in all
         due("nobody is fooled", of("fact a;person p cost 0;person q cost 0;row r a;tie p q price 0;").with(1, 0, 0), 0);
         due("nobody is fooled, for a price", of("fact a;person p cost 0;person q cost 0;row r a;tie p q price 1;").with(1, 0, 0), 0);
@@ -452,6 +507,19 @@ public final class BoundsOfLies extends Checks {
         due("one", said(EIGHT, 0b0111, 0b10011).leagues(0, 0), 1);
         // they need not be tied
         due("tied or not", said(EIGHT + "tie a c price 0;", 0b11, 0b1100).leagues(0, 0), 2);
+        for (int one = 3; one < 256; one++) {
+            for (int other = one; other < 256; other++) {
+                if (Integer.bitCount(one) == 2 && Integer.bitCount(other) == 2) {
+                    int due = one == other ? 1 : (one & other) == 0 ? 2 : -1;
+                    due("two, of " + one + " and " + other, said(EIGHT, one, other).leagues(0, 0), due);
+                }
+            }
+        }
+        due("three in a ring of three", said(EIGHT, 0b11, 0b101, 0b110).leagues(0, 0), -1);
+        due("a pair and three others", said(EIGHT, 0b111, 0b11000).leagues(0, 0), 2);
+        due("a pair, and one of it with two others", said(EIGHT, 0b11, 0b1101).leagues(0, 0), 2);
+        due("a pair, and one of it with one other", said(EIGHT, 0b11, 0b1001, 0b1111).leagues(0, 0), -1);
+        due("three with one in common", said(EIGHT, 0b111, 0b11001, 0b1100001).leagues(0, 0), 3);
         LieOfTwo x = said(EIGHT);
         for (int i = 0; i < 39; i++) {
             x.say(255, 0, false, true);
@@ -480,6 +548,33 @@ public final class BoundsOfLies extends Checks {
         x.untell(2);
         due("counts no more", x.leagues(0, 1), 0);
         due("ahead of all", x.leagues(0, -1), 0);
+        // others have the numbers of those that were there
+        x = said(EIGHT);
+        x.image(0);
+        x.say(12, 0, false, true);
+        x.say(3, 0, false, true);
+        due("two", x.leagues(0, 0), 2);
+        for (int pair : new int[] {3, 12, 48, 192, 3}) {
+            for (int other : new int[] {12, 48, 192, 3}) {
+                x.back(0);
+                x.say(pair, 0, false, true);
+                x.say(other, 0, false, true);
+                due("two, if they are not one", x.leagues(0, 0), pair == other ? 1 : 2);
+            }
+        }
+        x.back(0);
+        x.say(3, 0, false, true);
+        x.say(3, 0, false, true);
+        due("one", x.leagues(0, 0), 1);
+        x.back(0);
+        x.say(7, 0, false, true);
+        x.say(56, 0, false, true);
+        due("two", x.leagues(0, 0), 2);
+        x.back(0);
+        x.say(3, 0, false, false);
+        x.say(12, 0, false, false);
+        due("thinking ones", x.leagues(0, 0), 0);
+        due("plain", x.plain(0), 0);
         // such as could be said truly, in a WORLD that is not LEFT
         x = of("fact a;person p cost 0 knows a;person q cost 0 knows a;row ra a;law 0;");
         x.say(3, 0, false, true);
@@ -527,6 +622,27 @@ public final class BoundsOfLies extends Checks {
         due("one rather than two", x.plain(0), 12);
         x.say(3, 0, false, true);
         due("the pair is there already", x.plain(0), 12);
+        // where all have three, or four
+        x = of(lines("fact *;", 2) + "row no a and not a;row na not a;" + EIGHT);
+        for (int two : new int[] {3, 12, 48}) {
+            x.say(two, 0, false, true);
+        }
+        due("three in all", x.plain(0), 0);
+        x.say(192, 1, false, true);
+        due("four where it is so", x.plain(0), 0);
+        due("four where it is not", x.leagues(1, 0), 4);
+        due("three where it is", x.leagues(0, 0), 3);
+        x.say(192, 0, false, true);
+        due("four in all", x.plain(0), 0);
+        due("four in all", x.leagues(3, 0), 4);
+        x = of("fact a;row no a and not a;row ra a;" + EIGHT);
+        for (int two : new int[] {3, 12, 48}) {
+            x.say(two, 0, false, true);
+        }
+        x.say(192, 1, false, true);
+        due("three rather than four", x.plain(0), 1);
+        x.say(129, 0, false, true);
+        due("three rather than none", x.plain(0), -1);
         // LEFT: what one who can't LIE says rules the others out
         x = of("fact a;fact b;person p cost 0 knows a b;person q cost 0;row ra a;row rb b;row na not a;");
         x.say(1, 0, false, true);
@@ -643,6 +759,7 @@ public final class BoundsOfLies extends Checks {
         due("TURNED", x.vote(0, 1, 3), 1);
         for (int what : OTHERS) {
             due("another what " + what, x.vote(0, 0, what), -1);
+            due("another what " + what, x.vote(0, 1, what), -1);
         }
         for (int what = 0; what < 4; what++) {
             for (int world : new int[] {-1, 2, 3, 4, 256, LEAST, MOST}) {

@@ -170,9 +170,30 @@ public final class BoundsOfTexts extends Checks {
         table("a or b or c", A | B | C);
         table("a and b and c", A & B & C);
         table("a", A);
+        for (int one = 0; one < 8; one++) {
+            for (int other = 0; other < 8; other++) {
+                ofEight(one, other);
+            }
+        }
         faulty("fact a;row r a and or a;", 2, 19);
         faulty("fact a;row r or a;", 2, 13);
         faulty("fact a;row r a a;", 2, 15);
+    }
+
+    /** Two of eight FACTS, joined in each way. */
+    private static void ofEight(int one, int other) {
+        char a = (char) ('a' + one);
+        char b = (char) ('a' + other);
+        LieOfTwo x = of(lines("fact *;", 8) + "row ra " + a + " and " + b + ";row ro " + a + " or " + b + ";row ri " + a + " if " + b
+            + ";row rn not (" + a + " or " + b + ");");
+        for (int world : new int[] {0, 1 << one, 1 << other, 1 << one | 1 << other, 255, 255 - (1 << one), 255 - (1 << other)}) {
+            boolean isA = (world >> one & 1) != 0;
+            boolean isB = (world >> other & 1) != 0;
+            due("and", x.is(0, world), isA && isB ? 1 : 0);
+            due("or", x.is(1, world), isA || isB ? 1 : 0);
+            due("if", x.is(2, world), isA || !isB ? 1 : 0);
+            due("not", x.is(3, world), isA || isB ? 0 : 1);
+        }
     }
 
     private static void ones() {
@@ -305,6 +326,8 @@ public final class BoundsOfTexts extends Checks {
         faulty("fact abcdefgh;fact abcdefgh;", 3, 19);
         good("fact a;fact aa;fact aaa;fact aaaa;fact aaaaaaaa;");
         good("fact zzzzzzzz;fact zzzzzzz;fact azzzzzzz;");
+        good("fact a;fact b;fact aa;fact bb;fact ab;fact ba;fact aaa;fact bbb;");
+        good("fact z;fact zz;fact az;fact za;fact y;fact yz;fact zy;fact zzz;");
         faulty("fact abcdefghi;", 1, 5);
         // longer words whose ends or beginnings are words of their own
         faulty("fact abcdefgh;row r abcdefghi;", 1, 20);
@@ -387,6 +410,21 @@ public final class BoundsOfTexts extends Checks {
         faulty("7fact a;", 1, 0);
         good("law 7;");
         good("law 7\n;");
+        // a letter behind the text's end is not there
+        LieOfTwo x = new LieOfTwo();
+        tape(x, "law 7abc");
+        x.end(5);
+        due("the end", x.town(), -1);
+        due("the end", x.fault(0), 2);
+        due("the end", x.fault(1), 5);
+        tape(x, "fact abcdefghijklmnopq;");
+        x.end(13);
+        tape(x, ";");
+        due("8 letters, the others are gone", x.town(), 2);
+        tape(x, "law 12345;");
+        x.end(8);
+        tape(x, ";");
+        due("4 digits, the fifth is gone", x.town(), 1);
         good("law(7)+7-7<7;");
         // a digit behind a letter parts them
         faulty("fact a7;", 2, 6);
@@ -539,6 +577,14 @@ public final class BoundsOfTexts extends Checks {
         faultyBehind(FOUR + "tie p ", "a price 1;", 5);
         faultyBehind(FOUR + "tie ", "r p price 1;", 5);
         faultyBehind(FOUR + "tie p ", "s price 1;person s cost 0;", 5);
+        // of one with more ties, be it named first or second
+        String three = FOUR + "person s cost 0;tie q p price 1;tie s p price 1;";
+        faultyBehind(three + "tie p ", "q price 1;", 3);
+        faultyBehind(three + "tie p ", "s price 1;", 3);
+        faultyBehind(three + "tie q ", "p price 1;", 3);
+        good(three + "tie q s price 1;");
+        faultyBehind(FOUR + "person s cost 0;tie p q price 1;tie p s price 1;tie p ", "q price 1;", 3);
+        faultyBehind(FOUR + "person s cost 0;tie p q price 1;tie p s price 1;tie q ", "p price 1;", 3);
         // the ties of a TOWN do not last into another
         LieOfTwo x = of(FOUR + "tie p q price 1;");
         due("another TOWN", town(x, FOUR + "tie p q price 1;"), 2);
@@ -591,6 +637,20 @@ public final class BoundsOfTexts extends Checks {
         due("one, not told again", x.lies(1, false, true), 0);
         due("two, not told again", x.lies(3, false, true), 1);
         due("told again", town(x, FOUR + "law 0;"), 2);
+        due("two", x.lies(3, false, true), 0);
+        // none of the laws ahead matters
+        for (int again = 0; again < 4; again++) {
+            town(x, FOUR + "law 1;");
+            due("1", x.lies(1, false, true), 1);
+            town(x, FOUR + times("law 0;", again % 2));
+            due("not told, or 0", x.lies(1, false, true), 0);
+            town(x, FOUR + "law 0;");
+            due("0", x.lies(3, false, true), 0);
+        }
+        // nor what is told ahead of it in the same text
+        x = of(FOUR + "row s thinks p a;row t holds q a or a;always r or not a;law voices - 1;");
+        due("one", x.lies(1, false, false), 0);
+        due("two", x.lies(3, false, false), 1);
     }
 
     private static void units() {
@@ -623,7 +683,26 @@ public final class BoundsOfTexts extends Checks {
         LieOfTwo x = of(e + ";");
         due("a fault in another", town(x, e), -1);
         due("units", x.about(8), 80);
-        due("80 again", town(x, e + ";"), 2);
+        for (int again = 0; again < 5; again++) {
+            due("80 again", town(x, e + ";"), 2);
+        }
+        // as much as can be told of 80 units, again and again
+        String most = "fact a;fact b;row r " + times(times("not ", 7) + "a or ", 46) + times("not ", 7) + "b;";
+        x = new LieOfTwo();
+        for (int again = 0; again < 5; again++) {
+            due("a long one", town(x, most), 4);
+            due("a long one", x.is(0, 0), 1);
+            due("a long one", x.is(0, 1), 1);
+            due("a long one", x.is(0, 2), 1);
+            due("a long one", x.is(0, 3), 0);
+        }
+        // as much as can wait for what stands in ( )
+        x = of("fact a;fact b;fact c;fact d;row r " + times("a if b or c and (", 7) + "a if b or c and d" + times(")", 7) + ";");
+        due("all that can wait", x.is(0, 4), 0);
+        due("all that can wait", x.is(0, 12), 1);
+        x = of("person p cost 0;law " + times("0 or 0 = 0 + (", 7) + "0 or 0 = 0 + apart" + times(")", 7) + ";");
+        due("all that can wait", x.lies(1, true, true), 1);
+        due("all that can wait", x.lies(1, false, true), 0);
     }
 
     private static void depth() {

@@ -154,6 +154,15 @@ public final class BoundsOfWorlds extends Checks {
                 due("where it is not", x.is(fact, 255 - (1 << fact)), 0);
             }
         }
+        for (int known = 0; known < 8; known++) {
+            char name = (char) ('a' + known);
+            x = of(FACTS8 + "person p cost 0 knows " + name + ";" + lines("row n* holds p not *;", 8));
+            for (int fact = 0; fact < 8; fact++) {
+                due("knows " + name + ", holds that not " + fact, x.is(fact, 0), fact == known ? 1 : 0);
+                due("where it is not alone", x.is(fact, 255 - (1 << fact)), fact == known ? 1 : 0);
+                due("where it is", x.is(fact, 255), 0);
+            }
+        }
         x = of("fact a;fact b;person p cost 0 knows a;row h holds p b;always a or b;");
         due("no other WORLD has these bits", x.is(0, 2), 1);
         due("one WORLD more has these bits", x.is(0, 3), 0);
@@ -177,6 +186,15 @@ public final class BoundsOfWorlds extends Checks {
         due("neither", x.is(1, 126), 0);
         due("neither", x.is(1, 254), 0);
         due("not held", x.is(2, 255), 0);
+        for (int known = 0; known < 8; known++) {
+            char name = (char) ('a' + known);
+            x = of(FACTS8 + "person p cost 0 knows " + name + ";" + lines("row r* thinks p *;", 8));
+            for (int fact = 0; fact < 8; fact++) {
+                due("knows " + name + ", thinks " + fact, x.is(fact, 0), fact == known ? 0 : 1);
+                due("where it is not", x.is(fact, 255 - (1 << fact)), fact == known ? 0 : 1);
+                due("where it is", x.is(fact, 1 << fact), 1);
+            }
+        }
         x = of("fact a;person p cost 0 knows a;row r thinks p a;");
         due("knows it", x.is(0, 0), 0);
         due("knows it", x.is(0, 1), 1);
@@ -275,6 +293,21 @@ public final class BoundsOfWorlds extends Checks {
         due("a sure one", x.lies(1, false, true), 0);
         due("a thinking one apart", x.lies(1, true, false), 1);
         due("a sure one apart", x.lies(1, true, true), 0);
+        // two who are tied, two who are not; apart or not; surely or not
+        for (int way = 0; way < 8; way++) {
+            boolean isTied = (way & 1) != 0;
+            boolean apart = (way & 2) != 0;
+            boolean surely = (way & 4) == 0;
+            int two = isTied ? 3 : 5;
+            String four = lines("person * cost 0;", 4) + "tie a b price 0;";
+            due("tied", of(four + "law tied;").lies(two, apart, surely), isTied ? 1 : 0);
+            due("apart", of(four + "law apart;").lies(two, apart, surely), apart ? 1 : 0);
+            due("thinks", of(four + "law thinks;").lies(two, apart, surely), surely ? 0 : 1);
+            due("voices", of(four + "law voices = 2;").lies(two, apart, surely), 1);
+            due("voices", of(four + "law voices < 2 or voices > 2;").lies(two, apart, surely), 0);
+            due("all of them", of(four + "law tied + apart + thinks = 3;").lies(two, apart, surely), way == 7 ? 1 : 0);
+            due("none of them", of(four + "law tied + apart + thinks = 0;").lies(two, apart, surely), way == 0 ? 1 : 0);
+        }
         x = of("person p cost 0;law apart = 1;");
         due("apart", x.lies(1, true, true), 1);
         due("together", x.lies(1, false, true), 0);
@@ -303,6 +336,21 @@ public final class BoundsOfWorlds extends Checks {
         due("one of them", x.may(129, 0, false, false, 0), 0);
         due("apart is alike", x.may(255, 0, true, true, 1), 0);
         due("apart is alike", x.may(127, 0, true, true, 1), 1);
+        // one who knows one of eight FACTS
+        for (int known = 0; known < 8; known++) {
+            x = of(FACTS8 + lines("person * cost 0 knows *;", 8) + lines("row r* *;", 8) + "law 0;");
+            for (int row = 0; row < 8; row++) {
+                boolean knows = row == known;
+                due("thinks, where it is not", x.may(1 << known, row, false, false, 255 - (1 << row)), knows ? 0 : 1);
+                due("thinks, where it alone is", x.may(1 << known, row, false, false, 1 << row), 1);
+                due("surely, where it alone is", x.may(1 << known, row, false, true, 1 << row), knows ? 1 : 0);
+                due("surely, where all are", x.may(1 << known, row, false, true, 255), knows ? 1 : 0);
+            }
+            due("thinks what one knows", x.say(1 << known, known, false, false), 0);
+            due("half is LEFT", x.left(0), 128);
+            due("the first", x.world(0, 0), 1 << known);
+            due("the last", x.world(127, 0), 255);
+        }
     }
 
     private static void mayBe() {
@@ -463,6 +511,7 @@ public final class BoundsOfWorlds extends Checks {
     private static void left() {
         test("LEFT: WORLDS of BASE in which all SAYINGS that count can be said", BoundsOfWorlds::leftOver);
         test("The i-th WORLD that is LEFT (by number); NONE if there is none such", BoundsOfWorlds::worldsLeft);
+        test("a ROW that is so in all that are LEFT", BoundsOfWorlds::ofMany);
         test("SURE: a ROW that is so in all that are LEFT", BoundsOfWorlds::sureOrNot);
         test("1 if a ROW is SURE, 0 if it is so in none that is LEFT, -2 if in some; NONE if there is none such, or none is LEFT",
             BoundsOfWorlds::sureOrNot);
@@ -511,6 +560,33 @@ public final class BoundsOfWorlds extends Checks {
         due("the second", x.world(1, 0), 131);
         due("the last", x.world(63, 0), 255);
         due("one more", x.world(64, 0), -1);
+    }
+
+    /** What is LEFT of 256 WORLDS, by one who knows all eight FACTS. */
+    private static void ofMany() {
+        LieOfTwo x = of(FACTS8 + "person p cost 0 knows a b c d e f g h;" + lines("row r* *;", 8) + "row gh g and h;row x g or h;law 0;");
+        for (int row = 0; row < 8; row++) {
+            due("in half of them", x.sure(row, 0), -2);
+        }
+        x.say(1, 0, false, true);
+        x.say(1, 6, false, true);
+        x.say(1, 7, false, true);
+        due("left", x.left(0), 32);
+        due("the first", x.world(0, 0), 193);
+        due("sure", x.sure(8, 0), 1);
+        due("by two", x.proof(8, 0), 6);
+        due("by one of two", x.proof(9, 0), 2);
+        due("by one", x.proof(0, 0), 1);
+        due("by one", x.proof(6, 0), 2);
+        due("by one", x.proof(7, 0), 4);
+        due("judge", x.judge(63, 0), 1);
+        due("judge", x.judge(127, 0), 2);
+        due("judge", x.judge(192, 0), 0);
+        x.say(1, 8, false, true);
+        due("by one", x.proof(8, 0), 8);
+        due("by the first of three", x.proof(9, 0), 2);
+        x.untell(1);
+        due("what counts is numbered anew", x.proof(8, 0), 4);
     }
 
     private static void sureOrNot() {
