@@ -157,6 +157,8 @@ public final class BoundsOfCalls extends Checks {
 
     private static void towns() {
         test("The TAPE (empty then) is the TOWN (SAYINGS are none, BOXES are empty then; the TIME stays)", BoundsOfCalls::goodTown);
+        test("(SAYINGS are none, BOXES are empty then; the TIME stays)", BoundsOfCalls::nothingLasts);
+        test("80 units in all", BoundsOfCalls::fullTown);
         test("NONE: a FAULT (the TAPE is empty then, too; all else stays)", BoundsOfCalls::badTown);
         test("Of the latest town() what 0: its FAULT (0: without; ahead of any, too), 1: its place (NONE)", BoundsOfCalls::latestFault);
         test("NONE for another what", BoundsOfCalls::otherFaults);
@@ -184,6 +186,100 @@ public final class BoundsOfCalls extends Checks {
         due("untell", x.untell(1), false);
         due("the same TOWN again", town(x, HOUSE), 4);
         due("SAYINGS are none", x.about(5), 0);
+    }
+
+    /** Of a TOWN that told more nothing is left in one that tells less. */
+    private static void nothingLasts() {
+        String rich = "fact a;fact b;fact c;person p cost 9 knows b;person q cost 8 knows a b c;person s cost 7 knows c;row ra a;row rb b;"
+            + "row rc c;tie p q price 5;tie q s price 5;tie s p price 0;wish p ra worth 9;wish q ra worth 8;wish p rb worth 7;"
+            + "wish q rb worth 6;always a or b;always c or b;law 1;";
+        String poor = "fact a;fact b;person p cost 0;person q cost 0;row rb b;";
+        String tied = poor + "tie q p price 1;";
+        LieOfTwo x = new LieOfTwo();
+        for (int again = 0; again < 4; again++) {
+            due("the richer one", town(x, rich), 5);
+            due("askings", x.askings(0, 0), 1);
+            due("rest", x.rest(4 + 2, 0), 7);
+            due("may LIE", x.lies(1, false, true), 1);
+            due("the poorer one", town(x, again % 2 == 0 ? poor : tied), 4);
+            due("nobody can tell", x.askings(0, 0), -1);
+            due("nobody knows", x.answers(0, 0, 2), 2);
+            due("no other ROW", x.answers(0, 1, 2), -1);
+            due("no other PERSON", x.answers(2, 0, 2), -1);
+            due("next", x.next(0, 0), 0);
+            due("next", x.next(2, 0), 4);
+            due("wishes", x.rest(0, 0), 0);
+            due("turned", x.vote(0, 0, 3), again % 2 == 0 ? -1 : 1);
+            due("tied", x.with(1, 0, 0), again % 2 == 0 ? -1 : 0);
+            due("law", x.lies(1, false, true), 0);
+            due("units", x.about(8), 1);
+            due("an empty one", again % 2 == 0 ? town(x, "") : 1, 1);
+        }
+    }
+
+    /** All that can be told, and each call on it. */
+    private static void fullTown() {
+        LieOfTwo x = of(lines("fact *;", 8) + lines("person * cost 0 knows *;", 8) + lines("row r* *;", 8)
+            + "row three a and c and e;row rj a or not a;row rk a and not a;row rl not b;"
+            + "always rj;always rl or b;always not rk;always rj or rk;"
+            + lines("tie a * price 0;", 8).replace("tie a a price 0;", "")
+            + "tie h b price 0;tie h c price 0;tie h d price 0;tie h e price 0;tie h f price 0;"
+            + lines("wish * rk worth 1;", 8) + "wish b ra worth 50;wish c ra worth 50;wish f rl worth 30;wish h rl worth 40;"
+            + "law voices-1" + times("+0", 56) + ";");
+        int[] due = {8, 8, 12, 12, 12, 0, 0, 0, 80, 256};
+        for (int what = 0; what < 10; what++) {
+            due("about " + what, x.about(what), due[what]);
+        }
+        due("the last ROW is so", x.is(11, 253), 1);
+        due("the last ROW is not", x.is(11, 255), 0);
+        due("who knows", x.answers(1, 11, 0), 1);
+        due("who does not", x.answers(7, 11, 0), 2);
+        due("next", x.next(0, 0), 0);
+        due("next", x.next(1, 0), 0);
+        due("next", x.next(2, 0), 128);
+        due("by the last PERSON", x.askings(7, 0), 1);
+        due("three would do", x.askings(8, 0), -1);
+        due("so in all", x.askings(9, 0), 0);
+        due("by the second", x.askings(11, 0), 1);
+        due("all hold that it is not", x.lasts(0, 7, 10, 255), 0);
+        due("one holds that it is not", x.lasts(0, 7, 11, 255), 5);
+        due("with that one", x.with(7, 11, 255), 1);
+        due("with that one", x.with(0, 11, 255), 1);
+        due("GAIN", x.rest(0, 0), 4);
+        due("ties", x.rest(0, 1), 130);
+        due("GAIN with the last tie", x.rest(2, 0), 72);
+        due("the first and the last tie", x.rest(2, 1), 2049);
+        due("all say no", x.vote(10, 0, 1), 8);
+        due("two pairs at most", x.vote(10, 0, 3), -1);
+        due("all say yes", x.vote(9, 255, 0), 8);
+        due("two pairs", x.vote(9, 255, 3), 2);
+        due("one says yes", x.vote(11, 0, 3), 1);
+        due("truth", x.truth(11, 10, 10, 1, 0), 2);
+        due("sure", x.sure(9, 0), 1);
+        due("proof", x.proof(9, 0), 0);
+        for (int i = 0; i < 40; i++) {
+            x.say(i < 39 ? 3 : 192, 10, false, true);
+        }
+        due("all are LEFT", x.left(0), 256);
+        due("leagues", x.leagues(255, 0), 2);
+        due("plain", x.plain(0), 0);
+        due("judge", x.judge(255, 0), -1);
+        for (int box = 0; box < 3; box++) {
+            due("image", x.image(box), 40);
+        }
+        waitingInFull();
+    }
+
+    // A long ROW of eight FACTS, and one that always names.
+    private static void waitingInFull() {
+        LieOfTwo x = of(lines("fact *;", 8) + "row r " + times("a if b or c and (", 7) + "a if b or c and h" + times(")", 7)
+            + ";always r;");
+        due("none of BASE", x.is(0, 4), -1);
+        due("of BASE", x.is(0, 132), 1);
+        due("of BASE", x.is(0, 133), 1);
+        due("none of BASE", x.is(0, 134), -1);
+        due("of BASE", x.is(0, 128), 1);
+        due("of BASE", x.is(0, 0), 1);
     }
 
     private static void badTown() {

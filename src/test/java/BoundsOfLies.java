@@ -643,6 +643,12 @@ public final class BoundsOfLies extends Checks {
         due("three rather than four", x.plain(0), 1);
         x.say(129, 0, false, true);
         due("three rather than none", x.plain(0), -1);
+        // all 256 have one
+        x = of(rows + "row no a and not a;");
+        x.say(3, 8, false, true);
+        due("the first of like ones", x.plain(0), 0);
+        x.say(12, 7, false, true);
+        due("the first of like ones", x.plain(0), 128);
         // LEFT: what one who can't LIE says rules the others out
         x = of("fact a;fact b;person p cost 0 knows a b;person q cost 0;row ra a;row rb b;row na not a;");
         x.say(1, 0, false, true);
